@@ -430,7 +430,7 @@ public final class PromptHoles {
         if (sheets.formOf(s) != sheets.formOf(t)) {
             return found(STORE);
         }
-        if (n < 0 || !sheets.hasRun(s, i, n) || !sheets.hasRun(t, j, n)) {
+        if (!sheets.hasRun(s, i, n) || !sheets.hasRun(t, j, n)) {
             return found(INDEX);
         }
         sheets.carry(s, i, t, j, n);
@@ -1118,7 +1118,7 @@ public final class PromptHoles {
 
         /** Whether a SHEET has n items from i on. */
         boolean hasRun(int s, int i, int n) {
-            return i >= 0 && i <= sizeOf(s) && n <= sizeOf(s) - i;
+            return i >= 0 && n >= 0 && n <= sizeOf(s) - i;
         }
 
         /** Behind hasRun of both: item by item, from the side on which none is lost. */

@@ -715,6 +715,18 @@ public final class PromiseTest {
                 due("evening(" + seed + ", " + at + ", 1)", x.evening(seed, at, 1), off);
             }
         }
+        PromptHoles three = theatre("abcdefgh", "j0ra;a9ra;j0ra");
+        for (int seed = -20; seed < 20; seed++) {
+            long s = seed & 0xffffffffL;
+            int coughs = 0;
+            for (int at = 1; at < 40; at++) {
+                s = lot(s);
+                boolean near = s / 65536 % 3 == 1;
+                s = lot(s);
+                coughs += near && s / 65536 % 4 == 0 ? 1 : 0;
+            }
+            due("evening(" + seed + ", 39, 0) of three holes", three.evening(seed, 39, 0), coughs % 8);
+        }
         due("evening(5, 0, 0)", x.evening(5, 0, 0), 0);
         due("evening(5, 0, 1)", x.evening(5, 0, 1), 0);
         PromptHoles bare = theatre("abc", "");
