@@ -951,10 +951,14 @@ public final class PromptHoles {
 
         /** Plays all STEPS to a row, with holes that COUGH in one STEP besides. */
         void rehearse(int coughStep, int extra, int[] row) {
+            // A cough of a hole that is not played, or that coughs anyway, leaves all as it is.
+            int hole = byIn(coughStep);
+            int more = extra & ~coughsIn(coughStep);
+            int first = hole != NONE && (more >> hole & 1) != 0 ? coughStep : STEPS;
             int line = NONE;
             for (int step = 0; step < STEPS && step < row.length; step++) {
-                int coughs = step == coughStep ? coughing[step] | extra : coughing[step];
-                line = step < coughStep ? played[step] : follow(step, by[step], line, coughs);
+                int coughs = step == first ? coughing[step] | extra : coughing[step];
+                line = step < first ? played[step] : follow(step, by[step], line, coughs);
                 row[step] = line;
             }
         }
