@@ -3,8 +3,8 @@
  * inputs. What is due is worked out by hand from the document's words.
  */
 public final class PromiseTest {
-    private static final int LEAST = Integer.MIN_VALUE;
-    private static final long BAD_LONG = Long.MIN_VALUE + 2;
+    private static final int LEAST = Theatre.LEAST;
+    private static final long BAD_LONG = Theatre.BAD_LONG;
     private static final Check CHECK = new Check("PromiseTest");
 
     public static void main(String[] args) {
@@ -49,19 +49,6 @@ public final class PromiseTest {
 
     private static void due(String call, long got, long want) {
         CHECK.due(call, got, want);
-    }
-
-    private static PromptHoles theatre(String play, String holes) {
-        PromptHoles x = new PromptHoles();
-        typeAll(x, 0, play);
-        typeAll(x, 1, holes);
-        return x;
-    }
-
-    private static void typeAll(PromptHoles x, int text, String bytes) {
-        for (int i = 0; i < bytes.length(); i++) {
-            x.type(text, bytes.charAt(i));
-        }
     }
 
     /** Letters of what is played from step 0 on; - where nothing is. */
@@ -115,7 +102,7 @@ public final class PromiseTest {
     }
 
     private static void wipe() {
-        PromptHoles x = theatre("abc", "a0na");
+        PromptHoles x = Theatre.of("abc", "a0na");
         due("wipe(-1)", x.wipe(-1), -2);
         due("wipe(2)", x.wipe(2), -2);
         due("wipe(0)", x.wipe(0), 3);
@@ -127,7 +114,7 @@ public final class PromiseTest {
     }
 
     private static void undo() {
-        PromptHoles x = theatre("abx", "a0na");
+        PromptHoles x = Theatre.of("abx", "a0na");
         due("undo(-1)", x.undo(-1), -2);
         due("undo(2)", x.undo(2), -2);
         due("undo, no play", x.count(0), 0);
@@ -174,7 +161,7 @@ public final class PromiseTest {
             nine.append(";a0na");
         }
         faultOf(1, nine.toString(), -1);
-        PromptHoles y = theatre("ab", "a9rb;b");
+        PromptHoles y = Theatre.of("ab", "a9rb;b");
         due("a fault, count(1)", y.count(1), 0);
         due("a fault, count(3)", y.count(3), 6);
         plays("a fault in the holes", y, "abab");
@@ -182,12 +169,12 @@ public final class PromiseTest {
 
     private static void faultOf(int text, String bytes, int want) {
         PromptHoles x = new PromptHoles();
-        typeAll(x, text, bytes);
+        Theatre.typeAll(x, text, bytes);
         due("fault(" + text + ") of " + bytes, x.fault(text), want);
     }
 
     private static void line() {
-        PromptHoles x = theatre("hab", "");
+        PromptHoles x = Theatre.of("hab", "");
         due("line(0)", x.line(0), 7);
         due("line(1)", x.line(1), 0);
         due("line(2)", x.line(2), 1);
@@ -197,12 +184,12 @@ public final class PromiseTest {
         due("line(-1)", x.line(-1), -2);
         x.type(0, 'z');
         due("line(0) with a fault", x.line(0), -1);
-        PromptHoles full = theatre("aaaaaaaaaaaaaaaaaaaaaaah", "");
+        PromptHoles full = Theatre.of("aaaaaaaaaaaaaaaaaaaaaaah", "");
         due("line(23) of a full play", full.line(23), 7);
     }
 
     private static void hole() {
-        PromptHoles x = theatre("", "c7nh;a0rd;j9ya;b5lb");
+        PromptHoles x = Theatre.of("", "c7nh;a0rd;j9ya;b5lb");
         int[][] want = {{2, 7, 0, 7}, {0, 0, 1, 3}, {9, 9, 2, 0}, {1, 5, 3, 1}};
         for (int h = 0; h < 4; h++) {
             for (int what = 0; what < 4; what++) {
@@ -218,7 +205,7 @@ public final class PromiseTest {
     }
 
     private static void printed() {
-        PromptHoles x = theatre("cabad", "");
+        PromptHoles x = Theatre.of("cabad", "");
         int[] next = {1, 0, 0, 2, 2, 2, 2, 2};
         int[] ahead = {2, 0, 3, 0, 2, 2, 2, 2};
         for (int l = 0; l < 8; l++) {
@@ -229,10 +216,10 @@ public final class PromiseTest {
         due("printed(8, 0)", x.printed(8, 0), -2);
         due("printed(0, -1)", x.printed(0, -1), -2);
         due("printed(0, 2)", x.printed(0, 2), -2);
-        PromptHoles one = theatre("e", "");
+        PromptHoles one = Theatre.of("e", "");
         due("printed(4, 0) of one line", one.printed(4, 0), 4);
         due("printed(4, 1) of one line", one.printed(4, 1), 4);
-        PromptHoles none = theatre("", "");
+        PromptHoles none = Theatre.of("", "");
         due("printed(0, 0) without a play", none.printed(0, 0), -1);
         due("printed(0, 1) without a play", none.printed(0, 1), -1);
         due("printed(8, 0) without a play", none.printed(8, 0), -2);
@@ -266,7 +253,7 @@ public final class PromiseTest {
     }
 
     private static void cough() {
-        PromptHoles x = theatre("gh", "a9ra;b9ra");
+        PromptHoles x = Theatre.of("gh", "a9ra;b9ra");
         due("cough(-1, 0)", x.cough(-1, 0), -2);
         due("cough(40, 0)", x.cough(40, 0), -2);
         due("cough(0, -1)", x.cough(0, -1), -2);
@@ -292,7 +279,7 @@ public final class PromiseTest {
     }
 
     private static void dark() {
-        PromptHoles x = theatre("abc", "a9nd");
+        PromptHoles x = Theatre.of("abc", "a9nd");
         due("dark(-1)", x.dark(-1), -2);
         due("dark(40)", x.dark(40), -2);
         due("dark(2)", x.dark(2), 1);
@@ -311,7 +298,7 @@ public final class PromiseTest {
     }
 
     private static void back() {
-        PromptHoles x = theatre("ab", "a9ra");
+        PromptHoles x = Theatre.of("ab", "a9ra");
         due("back(-1)", x.back(-1), -2);
         due("back(3)", x.back(3), -2);
         for (int what = 0; what < 3; what++) {
@@ -365,7 +352,7 @@ public final class PromiseTest {
     }
 
     private static void step() {
-        PromptHoles x = theatre("abcd", "c1ra;a0nb");
+        PromptHoles x = Theatre.of("abcd", "c1ra;a0nb");
         due("step(-1, 0)", x.step(-1, 0), -2);
         due("step(40, 0)", x.step(40, 0), -2);
         due("step(0, -1)", x.step(0, -1), -2);
@@ -382,17 +369,17 @@ public final class PromiseTest {
         x.move(5, 9);
         plays("none hears in place 9", x, "abcdddab");
         playedBy("none hears in place 9", x, "-11100--");
-        PromptHoles like = theatre("ab", "d9rc;b9nc;b9rc");
+        PromptHoles like = Theatre.of("ab", "d9rc;b9nc;b9rc");
         like.move(0, 2);
         playedBy("of like ones the least", like, "-00");
         like.move(2, 1);
         playedBy("nearest now", like, "-011");
-        PromptHoles none = theatre("", "a9ya");
+        PromptHoles none = Theatre.of("", "a9ya");
         plays("without a play", none, "----");
         playedBy("without a play", none, "----");
         due("without a play, where", none.step(5, 2), 0);
         due("without a play, printed", none.step(5, 3), -1);
-        PromptHoles three = theatre("hfg", "");
+        PromptHoles three = Theatre.of("hfg", "");
         due("step(0, 3)", three.step(0, 3), 7);
         due("step(4, 3)", three.step(4, 3), 5);
         due("step(38, 3)", three.step(38, 3), 6);
@@ -400,19 +387,19 @@ public final class PromiseTest {
     }
 
     private static void habits() {
-        plays("n", theatre("abad", "a9nc"), "abababa");
-        plays("n of a line that is nowhere", coughIn(theatre("abc", "a9nc"), 2), "abdab");
-        plays("r", theatre("abcd", "a9rc"), "aaaa");
-        plays("y", theatre("abcd", "a9yc"), "acdcdcdc");
-        plays("y of the first line", theatre("abcd", "a9ya"), "ababab");
-        plays("y of a line that is nowhere", theatre("abcd", "a9yh"), "ahahah");
-        plays("l behind", theatre("abcd", "a9lb"), "abbb");
-        plays("l ahead", theatre("abcd", "a9ld"), "addd");
-        plays("l on no side", theatre("abcd", "a9lc"), "aaaa");
-        plays("l by the first place alone", theatre("bacbda", "a9ld"), "bbbb");
-        plays("l beside a line that is nowhere", coughIn(theatre("abc", "a9ra;a9la"), 3), "aaabb");
+        plays("n", Theatre.of("abad", "a9nc"), "abababa");
+        plays("n of a line that is nowhere", coughIn(Theatre.of("abc", "a9nc"), 2), "abdab");
+        plays("r", Theatre.of("abcd", "a9rc"), "aaaa");
+        plays("y", Theatre.of("abcd", "a9yc"), "acdcdcdc");
+        plays("y of the first line", Theatre.of("abcd", "a9ya"), "ababab");
+        plays("y of a line that is nowhere", Theatre.of("abcd", "a9yh"), "ahahah");
+        plays("l behind", Theatre.of("abcd", "a9lb"), "abbb");
+        plays("l ahead", Theatre.of("abcd", "a9ld"), "addd");
+        plays("l on no side", Theatre.of("abcd", "a9lc"), "aaaa");
+        plays("l by the first place alone", Theatre.of("bacbda", "a9ld"), "bbbb");
+        plays("l beside a line that is nowhere", coughIn(Theatre.of("abc", "a9ra;a9la"), 3), "aaabb");
         // e is nowhere: what is printed next to it, on either side, is the first line.
-        PromptHoles x = theatre("abcd", "a9yf;j9la");
+        PromptHoles x = Theatre.of("abcd", "a9yf;j9la");
         x.move(2, 9);
         plays("l, heard a line that is nowhere", x, "afaa");
     }
@@ -423,7 +410,7 @@ public final class PromiseTest {
     }
 
     private static void whispers() {
-        PromptHoles x = theatre("abcd", "a0na;c1rb;j9yh");
+        PromptHoles x = Theatre.of("abcd", "a0na;c1rb;j9yh");
         due("whispers(-1, 0)", x.whispers(-1, 0), -2);
         due("whispers(40, 0)", x.whispers(40, 0), -2);
         due("whispers(1, -1)", x.whispers(1, -1), -2);
@@ -442,12 +429,12 @@ public final class PromiseTest {
         x.dark(5);
         due("whispers(5, 1) in the dark", x.whispers(5, 1), -1);
         due("whispers(39, 0)", x.whispers(39, 0), -1);
-        PromptHoles none = theatre("", "a9ya");
+        PromptHoles none = Theatre.of("", "a9ya");
         due("whispers(1, 0) without a play", none.whispers(1, 0), -1);
     }
 
     private static void drift() {
-        PromptHoles x = theatre("abcd", "");
+        PromptHoles x = Theatre.of("abcd", "");
         due("drift(-1)", x.drift(-1), -2);
         due("drift(2)", x.drift(2), -2);
         due("drift(0) of none", x.drift(0), -1);
@@ -456,34 +443,34 @@ public final class PromiseTest {
         // Printed in 38 and 39: c, d; played: a, b.
         due("drift(0)", x.drift(0), 38);
         due("drift(1)", x.drift(1), 2);
-        PromptHoles r = theatre("abcd", "a9ra");
+        PromptHoles r = Theatre.of("abcd", "a9ra");
         due("drift(0) of r", r.drift(0), 1);
         due("drift(1) of r", r.drift(1), 30);
-        PromptHoles none = theatre("", "a9ra");
+        PromptHoles none = Theatre.of("", "a9ra");
         due("drift(0) without a play", none.drift(0), -1);
         due("drift(1) without a play", none.drift(1), -1);
     }
 
     private static void round() {
         due("round() without a play", new PromptHoles().round(), 1);
-        due("round() of r", theatre("abc", "a9ra").round(), 1);
-        due("round() of three", theatre("abc", "").round(), 3);
-        due("round() of eight", theatre("abcdefgh", "").round(), 8);
+        due("round() of r", Theatre.of("abc", "a9ra").round(), 1);
+        due("round() of three", Theatre.of("abc", "").round(), 3);
+        due("round() of eight", Theatre.of("abcdefgh", "").round(), 8);
         // abac: behind a always b, so the play's own length does not count.
-        due("round() of abac", theatre("abac", "").round(), 2);
-        PromptHoles x = theatre("abc", "");
+        due("round() of abac", Theatre.of("abac", "").round(), 2);
+        PromptHoles x = Theatre.of("abc", "");
         x.dark(15);
         due("round(), dark ahead of 16", x.round(), 3);
         x.dark(17);
         // From 16 on: b a b c a b c ..: never again is b played ahead of a.
         due("round(), dark in 17", x.round(), -1);
-        PromptHoles late = theatre("aaaaaaaaaaaaaaaaaaaaaaab", "a9ra");
+        PromptHoles late = Theatre.of("aaaaaaaaaaaaaaaaaaaaaaab", "a9ra");
         late.cough(39, 0);
         due("round(), a cough in 39", late.round(), -1);
         late.back(1);
         late.cough(28, 0);
         due("round(), a cough in 28", late.round(), -1);
-        PromptHoles twelve = theatre("abcdefgh", "");
+        PromptHoles twelve = Theatre.of("abcdefgh", "");
         twelve.dark(28);
         twelve.dark(16);
         // a to h, a to d from 16 on and again from 28 on: behind 12 steps, but not behind 8.
@@ -491,7 +478,7 @@ public final class PromiseTest {
     }
 
     private static void often() {
-        PromptHoles x = theatre("abc", "");
+        PromptHoles x = Theatre.of("abc", "");
         due("often(-1, 0)", x.often(-1, 0), -2);
         due("often(8, 0)", x.often(8, 0), -2);
         due("often(0, -1)", x.often(0, -1), -2);
@@ -509,7 +496,7 @@ public final class PromiseTest {
     }
 
     private static void may() {
-        PromptHoles x = theatre("abcd", "a9rb;b9ra");
+        PromptHoles x = Theatre.of("abcd", "a9rb;b9ra");
         due("may(-1, 0)", x.may(-1, 0), -2);
         due("may(40, 0)", x.may(40, 0), -2);
         due("may(0, -1)", x.may(0, -1), -2);
@@ -526,8 +513,8 @@ public final class PromiseTest {
         x.dark(4);
         due("may(4, 5) in the dark", x.may(4, 5), 1);
         due("may(3, 5), dark behind it", x.may(3, 5), 1);
-        due("may without holes", theatre("abcd", "").may(3, 6), 4);
-        due("may without a play", theatre("", "a9rb").may(3, 6), 0);
+        due("may without holes", Theatre.of("abcd", "").may(3, 6), 4);
+        due("may without a play", Theatre.of("", "a9rb").may(3, 6), 0);
     }
 
     private static void prompts(String name, PromptHoles x, int line, int least, int last, int many) {
@@ -537,7 +524,7 @@ public final class PromiseTest {
     }
 
     private static void prompt() {
-        PromptHoles x = theatre("abcd", "");
+        PromptHoles x = Theatre.of("abcd", "");
         int[][] bad = {{0, 3, 0, 0}, {-1, 3, 0, 0}, {3, 3, 0, 0}, {4, 3, 0, 0}, {1, 40, 0, 0}, {40, 41, 0, 0},
             {1, -1, 0, 0}, {1, 3, -1, 0}, {1, 3, 8, 0}, {1, 3, 0, -1}, {1, 3, 0, 3}, {1, 0, 0, 0}};
         for (int[] b : bad) {
@@ -555,15 +542,15 @@ public final class PromiseTest {
         x.dark(3);
         prompts("dark in the later one", x, 0, 8, 2, 16);
         prompts("dark in the later one", x, 1, -1, -1, 0);
-        PromptHoles r = theatre("abcd", "a9rb");
+        PromptHoles r = Theatre.of("abcd", "a9rb");
         r.cough(2, 0);
         // A whisper of one's own takes the place of the cough in 2; behind one in 1 it counts.
         prompts("r with a cough in 2", r, 5, 8 + 4, 2, 2);
         prompts("r with a cough in 2", r, 0, 8 + 7, 2, 2);
-        PromptHoles y = theatre("abcd", "a9yb");
+        PromptHoles y = Theatre.of("abcd", "a9yb");
         // In 1 all but b, then b, then c; in 2 b, then c.
         prompts("y", y, 2, 8 + 0, 2, 8);
-        PromptHoles none = theatre("", "a9rb");
+        PromptHoles none = Theatre.of("", "a9rb");
         prompts("without a play", none, 0, -1, -1, 0);
     }
 
@@ -582,7 +569,7 @@ public final class PromiseTest {
     }
 
     private static void forget() {
-        PromptHoles x = theatre("ab", "a9ra");
+        PromptHoles x = Theatre.of("ab", "a9ra");
         due("forget() of none", x.forget(), 0);
         x.seen(1, 5);
         x.seen(2, 5);
@@ -594,7 +581,7 @@ public final class PromiseTest {
     }
 
     private static void filed() {
-        PromptHoles x = theatre("abcd", "c1re;d1re;j9na");
+        PromptHoles x = Theatre.of("abcd", "c1re;d1re;j9na");
         due("filed() with nothing seen", x.filed(), 7);
         // Hole 2 hears all, and plays what is printed; hole 0, filed, would play the same again.
         x.seen(5, 0);
@@ -606,15 +593,15 @@ public final class PromiseTest {
         due("filed(), holes 1 and 2 change nothing", x.filed(), 6);
         x.seen(6, 0);
         due("filed(), none", x.filed(), 0);
-        due("filed() without a play, nothing seen", theatre("", "a9ra;b9ra").filed(), 3);
-        PromptHoles none = theatre("", "a9ra;b9ra");
+        due("filed() without a play, nothing seen", Theatre.of("", "a9ra;b9ra").filed(), 3);
+        PromptHoles none = Theatre.of("", "a9ra;b9ra");
         none.seen(0, 0);
         due("filed() without a play", none.filed(), 0);
-        due("filed() without holes", theatre("ab", "").filed(), 0);
+        due("filed() without holes", Theatre.of("ab", "").filed(), 0);
     }
 
     private static void coughed() {
-        PromptHoles x = theatre("abcd", "a9ra;b9ra");
+        PromptHoles x = Theatre.of("abcd", "a9ra;b9ra");
         due("coughed(-1)", x.coughed(-1), -2);
         due("coughed(2)", x.coughed(2), -2);
         due("coughed(0) with nothing seen", x.coughed(0), 0x7fffffff);
@@ -636,14 +623,14 @@ public final class PromiseTest {
         x.forget();
         x.seen(11, 0);
         due("coughed(0), dark", x.coughed(0), 0x7fffffff);
-        PromptHoles none = theatre("", "a9ra");
+        PromptHoles none = Theatre.of("", "a9ra");
         due("coughed(0) without a play, nothing seen", none.coughed(0), 0x7fffffff);
         none.seen(3, 0);
         due("coughed(0) without a play", none.coughed(0), 0);
     }
 
     private static void ask() {
-        PromptHoles x = theatre("abcd", "a9ra;b9ra");
+        PromptHoles x = Theatre.of("abcd", "a9ra;b9ra");
         due("ask(-1)", x.ask(-1), -2);
         due("ask(2)", x.ask(2), -2);
         // Of 31 steps: in step s the s coughs from 1 to s make it b.
@@ -655,7 +642,7 @@ public final class PromiseTest {
         due("ask(0), of 5 to 10", x.ask(0), 7);
         x.seen(4, 1);
         due("ask(0), of none", x.ask(0), 0);
-        due("ask(0) without a play", theatre("", "a9ra").ask(0), 0);
+        due("ask(0) without a play", Theatre.of("", "a9ra").ask(0), 0);
     }
 
     private static void chance(String name, PromptHoles x, int[] a, long above, long below) {
@@ -665,7 +652,7 @@ public final class PromiseTest {
     }
 
     private static void slips() {
-        PromptHoles x = theatre("abcd", "a9ra;b9ra");
+        PromptHoles x = Theatre.of("abcd", "a9ra;b9ra");
         int[][] bad = {{-1, 0, 0, 1, 0}, {17, 0, 0, 1, 0}, {0, -1, 0, 1, 0}, {0, 2, 0, 1, 0}, {0, 0, -1, 1, 0},
             {0, 0, 8, 1, 0}, {0, 0, 0, 0, 0}, {0, 0, 0, 10, 0}, {0, 0, 0, 1, -1}, {0, 0, 0, 1, 2}};
         for (int[] b : bad) {
@@ -688,9 +675,9 @@ public final class PromiseTest {
         x.dark(2);
         chance("dark in the last one", x, new int[] {8, 0, 0, 2}, 1, 1);
         chance("dark ahead of the last one", x, new int[] {4, 0, 1, 3}, 1, 4);
-        PromptHoles none = theatre("", "a9ra");
+        PromptHoles none = Theatre.of("", "a9ra");
         chance("without a play", none, new int[] {8, 0, 0, 3}, 0, 1);
-        due("without holes", theatre("ab", "").slips(8, 0, 0, 3, 0), BAD_LONG);
+        due("without holes", Theatre.of("ab", "").slips(8, 0, 0, 3, 0), BAD_LONG);
     }
 
     private static long lot(long seed) {
@@ -698,7 +685,7 @@ public final class PromiseTest {
     }
 
     private static void evening() {
-        PromptHoles x = theatre("abcdefgh", "a9ra");
+        PromptHoles x = Theatre.of("abcdefgh", "a9ra");
         due("evening(0, -1, 0)", x.evening(0, -1, 0), -2);
         due("evening(0, 40, 0)", x.evening(0, 40, 0), -2);
         due("evening(0, 0, -1)", x.evening(0, 0, -1), -2);
@@ -715,7 +702,7 @@ public final class PromiseTest {
                 due("evening(" + seed + ", " + at + ", 1)", x.evening(seed, at, 1), off);
             }
         }
-        PromptHoles three = theatre("abcdefgh", "j0ra;a9ra;j0ra");
+        PromptHoles three = Theatre.of("abcdefgh", "j0ra;a9ra;j0ra");
         for (int seed = -20; seed < 20; seed++) {
             long s = seed & 0xffffffffL;
             int coughs = 0;
@@ -729,11 +716,11 @@ public final class PromiseTest {
         }
         due("evening(5, 0, 0)", x.evening(5, 0, 0), 0);
         due("evening(5, 0, 1)", x.evening(5, 0, 1), 0);
-        PromptHoles bare = theatre("abc", "");
+        PromptHoles bare = Theatre.of("abc", "");
         bare.dark(4);
         due("evening without holes", bare.evening(3, 6, 0), 2);
         due("evening without holes, off", bare.evening(3, 6, 1), 3);
-        PromptHoles none = theatre("", "a9ra");
+        PromptHoles none = Theatre.of("", "a9ra");
         due("evening without a play", none.evening(3, 6, 0), -1);
         due("evening without a play, off", none.evening(3, 6, 1), 0);
     }
@@ -864,7 +851,7 @@ public final class PromiseTest {
     }
 
     private static void write() {
-        PromptHoles x = theatre("abc", "a0nh");
+        PromptHoles x = Theatre.of("abc", "a0nh");
         x.move(3, 5);
         due("write(-1, 0)", x.write(-1, 0), -2);
         due("write(2, 0)", x.write(2, 0), -2);
@@ -889,7 +876,7 @@ public final class PromiseTest {
     }
 
     private static void count() {
-        PromptHoles x = theatre("abc", "a0na;b0nb");
+        PromptHoles x = Theatre.of("abc", "a0na;b0nb");
         x.move(0, 1);
         x.cough(1, 1);
         x.cough(1, 1);
@@ -915,16 +902,16 @@ public final class PromiseTest {
     }
 
     private static void digest() {
-        PromptHoles x = theatre("abcabd", "a2na;c1rb;e9ye");
+        PromptHoles x = Theatre.of("abcabd", "a2na;c1rb;e9ye");
         x.move(2, 3);
         x.cough(3, 1);
         x.dark(8);
         x.seen(3, 1);
         digestOf("a whole theatre", x);
         digestOf("new", new PromptHoles());
-        digestOf("no holes", theatre("abc", ""));
-        digestOf("no play", theatre("", "a2na"));
-        digestOf("faults", theatre("abx", "a2n"));
+        digestOf("no holes", Theatre.of("abc", ""));
+        digestOf("no play", Theatre.of("", "a2na"));
+        digestOf("faults", Theatre.of("abx", "a2n"));
         long once = x.digest();
         x.lose(0);
         due("digest is the same again, a finding is not in it", x.digest(), once);
