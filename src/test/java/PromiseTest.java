@@ -691,6 +691,7 @@ public final class PromiseTest {
         due("evening(0, 0, -1)", x.evening(0, 0, -1), -2);
         due("evening(0, 0, 2)", x.evening(0, 0, 2), -2);
         for (int seed : new int[] {0, 1, 7, -1, Integer.MIN_VALUE, Integer.MAX_VALUE, 123456789}) {
+            x = Theatre.of("abcdefgh", "a9ra");
             long s = seed & 0xffffffffL;
             int coughs = 0;
             int off = 0;

@@ -1,3 +1,5 @@
+import java.util.Random;
+
 /**
  * "BAD -2 (a number not as told, no such thing)": for every number of every call, what lies just
  * outside its bounds is BAD, and the least and the greatest themselves are taken.
@@ -14,6 +16,7 @@ public final class RangesTest {
         }
         noHoles();
         unbounded();
+        anyNumbers();
         CHECK.end();
     }
 
@@ -72,6 +75,27 @@ public final class RangesTest {
             x.sheet(0, 2, 1);
             CHECK.due("lay(0, 2, 0, " + number + ")", x.lay(0, 2, 0, number), 1);
             CHECK.due("get(0, 2, 0)", x.get(0, 2, 0), number);
+        }
+    }
+
+    /** Whatever is asked in whatever state, an answer comes: what a call throws ends this test. */
+    private static void anyNumbers() {
+        CHECK.says("no call throws, for any numbers in any state");
+        int[] numbers = {0, 1, 2, 3, 7, 8, 9, 38, 39, -1, 10, 16, 17, 24, 40, 60, 61, 'a', 255, 256, Theatre.LEAST, Theatre.GREATEST};
+        Random random = new Random(8);
+        for (int object = 0; object < 600; object++) {
+            PromptHoles x = theatre(1 + random.nextInt(9));
+            for (int i = 0; i < 400; i++) {
+                String call = Theatre.NAMES.get(random.nextInt(Theatre.NAMES.size()));
+                // Mostly small ones, so that many a call does something.
+                int most = random.nextBoolean() ? 9 : numbers.length;
+                int[] arguments = new int[Theatre.numbersOf(call)];
+                for (int a = 0; a < arguments.length; a++) {
+                    arguments[a] = numbers[random.nextInt(most)];
+                }
+                Theatre.ask(x, call, arguments);
+            }
+            CHECK.holds("its count(2) is a number of bytes", x.count(2) >= 0 && x.count(2) <= 24);
         }
     }
 }

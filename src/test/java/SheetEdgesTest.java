@@ -13,6 +13,7 @@ public final class SheetEdgesTest {
         lose();
         index();
         lowestBits();
+        leastItem();
         cast();
         copyIndex();
         copyAsTheyWere();
@@ -178,6 +179,24 @@ public final class SheetEdgesTest {
                 CHECK.due("get of " + laid[i] + ", form " + form, x.get(form, form, item), due[form]);
             }
         }
+    }
+
+    private static void leastItem() {
+        CHECK.says("31: BAD: the least int; so are NULL, CAST, INDEX (count() 8 tells), but so may an item be");
+        PromptHoles x = new PromptHoles();
+        x.sheet(1, 2, 60);
+        x.lay(1, 2, 59, LEAST);
+        CHECK.due("an item", x.get(1, 2, 59), LEAST);
+        CHECK.due("count(8), no finding", x.count(8), 0);
+        CHECK.due("BAD", x.get(4, 2, 59), LEAST);
+        CHECK.due("BAD", x.get(1, 3, 59), LEAST);
+        CHECK.due("count(8), no finding", x.count(8), 0);
+        CHECK.due("NULL", x.get(0, 2, 59), LEAST);
+        CHECK.due("count(8), NULL", x.count(8), 1);
+        CHECK.due("CAST", x.get(1, 1, 59), LEAST);
+        CHECK.due("count(8), CAST", x.count(8), 3);
+        CHECK.due("INDEX", x.get(1, 2, 60), LEAST);
+        CHECK.due("count(8), INDEX", x.count(8), 2);
     }
 
     private static void cast() {

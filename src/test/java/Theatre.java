@@ -1,5 +1,6 @@
 import java.lang.reflect.Method;
 import java.lang.reflect.Modifier;
+import java.util.List;
 import java.util.Map;
 import java.util.TreeMap;
 
@@ -24,6 +25,9 @@ final class Theatre {
             }
         }
     }
+
+    /** The names of all calls, always in the same order. */
+    static final List<String> NAMES = List.copyOf(CALLS.keySet());
 
     private Theatre() {
     }
@@ -51,6 +55,10 @@ final class Theatre {
         } catch (ReflectiveOperationException e) {
             throw new IllegalStateException(told(name, arguments), e);
         }
+    }
+
+    static int numbersOf(String name) {
+        return CALLS.get(name).getParameterCount();
     }
 
     static String told(String name, int... arguments) {
